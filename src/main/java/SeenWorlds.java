@@ -744,7 +744,6 @@ public final class SeenWorlds {
             put(opened, open, sign);
             put(place, open, here);
             put(first, open, NO_PART);
-            put(second, open, NO_PART);
             open++;
             return true;
         }
