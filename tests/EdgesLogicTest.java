@@ -24,6 +24,7 @@ public final class EdgesLogicTest {
         followsIsALaw();
         followsBitsOfBoth();
         followsLongOnes();
+        followsOfMostParts();
         followsRefused();
         Due.end();
     }
@@ -475,6 +476,27 @@ public final class EdgesLogicTest {
         Due.is("20 open and 19", x.follows(0, 1, K), 0);
         Due.is("a FAULT after it", Due.read(x, 2, "(p&"), -13);
         Due.is("SENTENCE 2 stays", x.holds(2, 0), 0);
+    }
+
+    /** Two of 40 unlike PARTS each that share none: 81 with the whole. */
+    private static void followsOfMostParts() {
+        String never = "(" + Due.times("!", 19) + "T&" + Due.times("!", 18) + "F)";
+        String always = "(" + Due.times("!", 18) + "T&" + Due.times("!", 19) + "F)";
+        String some = "!!((" + Due.times("!", 16) + "p&" + Due.times("!", 14) + "q)|(!r>s))";
+        String must = "!!((" + Due.times("!", 15) + "[p&" + Due.times("!", 12) + "{q)|([r>{s))";
+        SeenWorlds x = Due.with(never, always, some, must);
+        for (int i = 0; i < 4; i++) {
+            Due.is("SIGNS of " + i, x.about(i, 0), 40);
+            Due.is("PARTS of " + i, x.about(i, 2), 40);
+        }
+        for (int l = 0; l < 8; l++) {
+            for (int i = 2; i < 4; i++) {
+                Due.is("all follows what never holds by " + l, x.follows(0, i, l), 1);
+                Due.is("not all is a LAW by " + l, x.follows(1, i, l), 0);
+                Due.is("what always holds follows by " + l, x.follows(i, 1, l), 1);
+                Due.is("what never holds does not follow by " + l, x.follows(i, 0, l), 0);
+            }
+        }
     }
 
     private static int modelFollows(String first, String second, int logic) {

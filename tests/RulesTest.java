@@ -27,6 +27,7 @@ public final class RulesTest {
         String code = bare(source);
         words(code);
         rows(code);
+        made(code);
         methods(code);
         Due.end();
     }
@@ -119,6 +120,20 @@ public final class RulesTest {
             right(all, first || all.equals("row[place]") || all.equals("sentences[i]"));
         }
         Due.is("places in rows", seen, 7);
+    }
+
+    /** No call makes an object: all are made with the first one, in fields and in constructors. */
+    private static void made(String code) {
+        Matcher lines = Pattern.compile("\n *([^\n]*\\bnew\\b[^\n]*)").matcher(code);
+        int seen = 0;
+        while (lines.find()) {
+            seen++;
+            String line = lines.group(1);
+            boolean inField = line.matches("private final [\\w\\[\\]]+ \\w+ = new [^;]+;");
+            boolean inConstructor = line.equals("sentences[i] = new Sentence(MOST_SIGNS);") || line.matches("(sign|first|second|place|deep) = new int\\[size\\];");
+            right(line, inField || inConstructor);
+        }
+        right("makings were found: " + seen, seen > 20);
     }
 
     private static void methods(String code) {

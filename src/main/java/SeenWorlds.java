@@ -792,6 +792,7 @@ public final class SeenWorlds {
     private static final class Types {
         private final int[] bitOf = new int[MOST_PARTS];
         private final int[] value = new int[MOST_PARTS];
+        private final int[] claims = new int[MOST_TYPES];
         private final int[] bears = new int[MOST_TYPES];
         private final int[] whole = new int[MOST_TYPES];
         private final int[] fall = new int[MOST_TYPES];
@@ -817,10 +818,9 @@ public final class SeenWorlds {
             size = 1 << bits;
             giveBits(s);
             for (int type = 0; type < size; type++) weigh(s, type);
-            for (int type = 0; type < size; type++) put(fall, type, isFit(type) ? NONE : 0);
+            beginWithFit();
             rounds = 0;
             while (rounds < size && anyFall(rounds + 1)) rounds++;
-            listStays();
             return true;
         }
 
@@ -863,7 +863,7 @@ public final class SeenWorlds {
             return before;
         }
 
-        /** What each part is by a TYPE, and so what that TYPE bears. */
+        /** What each part is by a TYPE, and so what that TYPE claims and bears. */
         private void weigh(Sentence s, int type) {
             int borne = 0;
             for (int part = 0; part < s.parts(); part++) {
@@ -874,6 +874,7 @@ public final class SeenWorlds {
                 put(value, part, bit == NONE ? plainly : bit(type, bit));
                 if (bit != NONE) borne |= bearing(sign, x, plainly, bit(type, bit)) << bit;
             }
+            put(claims, type, (type ^ turned) & claiming);
             put(bears, type, borne);
             put(whole, type, at(value, s.parts() - 1));
         }
@@ -884,16 +885,12 @@ public final class SeenWorlds {
             return isAtom(sign) ? given : plainly;
         }
 
-        private int claims(int type) {
-            return (type ^ turned) & claiming;
-        }
-
         private boolean maySee(int a, int b) {
-            if (!within(claims(a), at(bears, b))) return false;
+            if (!within(at(claims, a), at(bears, b))) return false;
             switch (logic) {
-                case K4: case S4: case GROWTH: return within(claims(a), claims(b));
-                case KB: case TB: return within(claims(b), at(bears, a));
-                case S5: return within(claims(b), at(bears, a)) && claims(a) == claims(b);
+                case K4: case S4: case GROWTH: return within(at(claims, a), at(claims, b));
+                case KB: case TB: return within(at(claims, b), at(bears, a));
+                case S5: return within(at(claims, b), at(bears, a)) && at(claims, a) == at(claims, b);
                 default: return true;
             }
         }
@@ -905,43 +902,46 @@ public final class SeenWorlds {
             }
         }
 
-        private boolean anyFall(int round) {
-            boolean any = false;
-            for (int type = 0; type < size; type++) {
-                if (at(fall, type) == NONE && mustFall(type, round)) {
-                    put(fall, type, round);
-                    any = true;
-                }
-            }
-            return any;
-        }
-
-        private boolean mustFall(int type, int round) {
-            int owed = owing & ~claims(type);
-            boolean mustSee = logic == D;
-            for (int other = 0; other < size; other++) {
-                if (owed == 0 && !mustSee) return false;
-                if (isThere(other, round) && maySee(type, other)) {
-                    owed &= at(bears, other);
-                    mustSee = false;
-                }
-            }
-            return owed != 0 || mustSee;
-        }
-
-        /** Those that FALL in a ROUND FALL at once: until it ends they are there. */
-        private boolean isThere(int type, int round) {
-            int fell = at(fall, type);
-            return fell == NONE || fell == round;
-        }
-
-        private void listStays() {
+        private void beginWithFit() {
             staying = 0;
             for (int type = 0; type < size; type++) {
-                if (at(fall, type) != NONE) continue;
-                put(stays, staying, type);
-                staying++;
+                put(fall, type, 0);
+                if (isFit(type)) stay(type);
             }
+        }
+
+        private void stay(int type) {
+            put(fall, type, NONE);
+            put(stays, staying, type);
+            staying++;
+        }
+
+        /** All FALL at once: the list is closed up when a ROUND is over, so till then all are there. */
+        private boolean anyFall(int round) {
+            int were = staying;
+            for (int place = 0; place < were; place++) {
+                int type = at(stays, place);
+                if (mustFall(type)) put(fall, type, round);
+            }
+            staying = 0;
+            for (int place = 0; place < were; place++) {
+                int type = at(stays, place);
+                if (at(fall, type) == NONE) stay(type);
+            }
+            return staying < were;
+        }
+
+        private boolean mustFall(int type) {
+            int owed = owing & ~at(claims, type);
+            boolean mustSee = logic == D;
+            for (int place = 0; place < staying; place++) {
+                if (owed == 0 && !mustSee) return false;
+                int other = at(stays, place);
+                if (!maySee(type, other)) continue;
+                owed &= at(bears, other);
+                mustSee = false;
+            }
+            return owed != 0 || mustSee;
         }
 
         int fallOf(int type) {
